@@ -1,33 +1,44 @@
 import java.util.ArrayDeque;
 import java.util.ArrayList;
 import java.util.List;
+import java.util.function.Supplier;
 
-/** Tells all that calls can find out of an object. It uses handles 1 to 3 and ends with a crash. */
+/**
+ * Tells all that calls can find out of an object in some state. Every part is asked of an object of its own, brought to
+ * that state anew: so no question disturbs another one, and none comes near an object's 512th call.
+ */
 final class Observer {
     private static final int HANDLES = 4;
-    private static final int CELLS = 32;
-    private final ExtentFileTree tree;
+    private static final int BLOCKS = 8;
+    private static final int CELLS_OF_BLOCK = 4;
+    private final Supplier<? extends Tree> state;
     private final StringBuilder seen = new StringBuilder();
 
-    private Observer(ExtentFileTree tree) {
-        this.tree = tree;
+    private Observer(Supplier<? extends Tree> state) {
+        this.state = state;
     }
 
-    static String all(ExtentFileTree tree) {
-        Observer observer = new Observer(tree);
+    /** The handles, the present and the saved state, the copies that the two share, and the number of savings. */
+    static String all(Supplier<? extends Tree> state) {
+        Observer observer = new Observer(state);
         observer.handles();
-        observer.state("present");
-        observer.note("crash", tree.crash(0));
-        observer.handles();
-        observer.state("saved");
+        observer.whereHandlesAre(observer.nodes("present", state));
+        observer.savings();
+        observer.nodes("saved", () -> crashed(state));
         return observer.seen.toString();
     }
 
-    /** The tree of the present state alone; it leaves handle 1 at the node seen last. */
-    static String tree(ExtentFileTree tree) {
-        Observer observer = new Observer(tree);
-        observer.state("present");
+    /** The nodes of the present state alone. */
+    static String present(Supplier<? extends Tree> state) {
+        Observer observer = new Observer(state);
+        observer.nodes("present", state);
         return observer.seen.toString();
+    }
+
+    private static Tree crashed(Supplier<? extends Tree> state) {
+        Tree tree = state.get();
+        tree.crash(0);
+        return tree;
     }
 
     private void note(String what, int answer) {
@@ -35,38 +46,81 @@ final class Observer {
     }
 
     private void handles() {
+        Tree tree = state.get();
         for (int h = 0; h < HANDLES; h++) {
-            seen.append(" handle").append(h);
-            node(h);
+            seen.append("\n  handle ").append(h);
+            node(tree, h);
+        }
+        note("nodes", tree.nodes());
+        note("copies", tree.copies());
+    }
+
+    private void savings() {
+        seen.append("\n  savings");
+        note("crash(0)", state.get().crash(0));
+        note("crash(2)", state.get().crash(2));
+        note("crash(1)", state.get().crash(1));
+        note("save", state.get().save());
+    }
+
+    private List<List<Integer>> nodes(String title, Supplier<? extends Tree> from) {
+        List<List<Integer>> found = new ArrayList<>();
+        ArrayDeque<List<Integer>> waiting = new ArrayDeque<>();
+        waiting.add(List.of());
+        while (!waiting.isEmpty()) {
+            List<Integer> path = waiting.remove();
+            found.add(path);
+            Tree tree = from.get();
+            follow(tree, 1, path);
+            seen.append("\n  ").append(title).append(' ').append(path);
+            note("nodes", tree.nodes());
+            note("copies", tree.copies());
+            for (int name : node(tree, 1)) {
+                List<Integer> longer = new ArrayList<>(path);
+                longer.add(name);
+                waiting.add(longer);
+            }
+            sharing(tree);
+        }
+        return found;
+    }
+
+    /** Only a write tells whether a block's copy is in the saved state too: it makes one copy more, or is refused. */
+    private void sharing(Tree tree) {
+        if (tree.kind(1) != 2) {
+            return;
+        }
+        for (int block = 0; block < BLOCKS; block++) {
+            int cell = block * CELLS_OF_BLOCK;
+            note("rewrite", tree.write(1, cell, tree.read(1, cell)));
+            note("copies", tree.copies());
         }
     }
 
-    private void state(String name) {
-        seen.append(' ').append(name);
-        note("nodes", tree.nodes());
-        note("copies", tree.copies());
-        ArrayDeque<List<Integer>> paths = new ArrayDeque<>();
-        paths.add(List.of());
-        while (!paths.isEmpty()) {
-            List<Integer> path = paths.remove();
-            follow(path);
-            seen.append(' ').append(path);
-            for (int name2 : node(1)) {
-                List<Integer> longer = new ArrayList<>(path);
-                longer.add(name2);
-                paths.add(longer);
+    /** Two nodes may look the same, but the one that a handle refers to can't be erased. */
+    private void whereHandlesAre(List<List<Integer>> paths) {
+        for (int h = 1; h < HANDLES; h++) {
+            int guide = h == 1 ? 2 : 1;
+            int idle = h == 3 ? 2 : 3;
+            seen.append("\n  erasing beside handle ").append(h);
+            for (List<Integer> path : paths.subList(1, paths.size())) {
+                int last = path.size() - 1;
+                Tree tree = state.get();
+                tree.open(idle, 0, -1);
+                follow(tree, guide, path.subList(0, last));
+                note("" + path, tree.erase(guide, path.get(last)));
             }
         }
     }
 
-    private void follow(List<Integer> path) {
-        tree.open(1, 0, -1);
+    private static void follow(Tree tree, int h, List<Integer> path) {
+        tree.open(h, 0, -1);
         for (int name : path) {
-            tree.open(1, 1, name);
+            tree.open(h, h, name);
         }
     }
 
-    private List<Integer> node(int h) {
+    private List<Integer> node(Tree tree, int h) {
         List<Integer> names = new ArrayList<>();
         int kind = tree.kind(h);
         note("kind", kind);
@@ -78,7 +132,7 @@ final class Observer {
             }
         }
         if (kind == 2) {
-            for (int cell = 0; cell < CELLS; cell++) {
+            for (int cell = 0; cell < BLOCKS * CELLS_OF_BLOCK; cell++) {
                 note("" + cell, tree.read(h, cell));
             }
         }

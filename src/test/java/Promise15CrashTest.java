@@ -10,8 +10,8 @@ public final class Promise15CrashTest {
         due.end();
     }
 
-    private static ExtentFileTree saved() {
-        ExtentFileTree x = new ExtentFileTree();
+    private static RealTree saved() {
+        RealTree x = new RealTree();
         x.make(1, 0, 1, true);
         x.make(2, 1, 2, false);
         x.write(2, 0, 10);
@@ -20,40 +20,52 @@ public final class Promise15CrashTest {
         return x;
     }
 
-    private static void change(ExtentFileTree x) {
+    private static RealTree changed() {
+        RealTree x = saved();
         x.write(2, 0, 20);
         x.write(2, 31, 21);
         x.rename(1, 2, 0, 3);
         x.make(3, 1, 4, true);
+        return x;
+    }
+
+    private static RealTree crashed(int... whens) {
+        RealTree x = changed();
+        for (int when : whens) {
+            x.crash(when);
+        }
+        return x;
+    }
+
+    private static RealTree changedAndSaved() {
+        RealTree x = changed();
+        x.save();
+        return x;
     }
 
     private static void losesWhatWasNotSaved(Due due, int when) {
-        ExtentFileTree x = saved();
-        change(x);
+        String want = Observer.present(Promise15CrashTest::saved);
+        RealTree x = changed();
         due.is("crash(" + when + ")", x.crash(when), 1);
-        due.same("the tree after crash(" + when + ")", Observer.tree(x), Observer.tree(saved()));
         due.is("crash(" + when + ") again", x.crash(when), 1);
-        due.same("the tree after both", Observer.tree(x), Observer.tree(saved()));
         due.is("save()", x.save(), 2);
+        due.same("the nodes after one", Observer.present(() -> crashed(when)), want);
+        due.same("the nodes after two", Observer.present(() -> crashed(when, when)), want);
     }
 
     private static void keepsWhatItSaved(Due due) {
-        ExtentFileTree x = saved();
-        change(x);
-        ExtentFileTree y = saved();
-        change(y);
-        y.save();
-        String want = Observer.tree(y);
+        String want = Observer.present(Promise15CrashTest::changedAndSaved);
+        RealTree x = changed();
         due.is("crash(1)", x.crash(1), 2);
-        due.same("the tree after crash(1)", Observer.tree(x), want);
         due.is("crash(0)", x.crash(0), 2);
-        due.same("the tree after crash(0)", Observer.tree(x), want);
         due.is("save()", x.save(), 3);
+        due.same("the nodes after crash(1)", Observer.present(() -> crashed(1)), want);
+        due.same("the nodes after crash(0)", Observer.present(() -> crashed(1, 0)), want);
     }
 
     private static void handlesReferToNothing(Due due) {
         for (int when = 0; when <= 2; when++) {
-            ExtentFileTree x = saved();
+            RealTree x = saved();
             x.open(3, 0, -1);
             x.crash(when);
             for (int h = 1; h <= 3; h++) {
@@ -68,8 +80,7 @@ public final class Promise15CrashTest {
 
     private static void refusesOtherTimes(Due due) {
         int[] wrongWhen = {-1, 3, Integer.MIN_VALUE, Integer.MAX_VALUE};
-        ExtentFileTree x = saved();
-        change(x);
+        RealTree x = changed();
         for (int when : wrongWhen) {
             due.is("crash(" + when + ")", x.crash(when), ExtentFileTree.BAD);
         }
@@ -78,11 +89,12 @@ public final class Promise15CrashTest {
         due.is("read(2, 31)", x.read(2, 31), 21);
         due.is("kind(3)", x.kind(3), 1);
         due.is("crash(0)", x.crash(0), 1);
-        due.same("the saved tree", Observer.tree(x), Observer.tree(saved()));
+        due.same("what is seen after them", Observer.all(() -> crashed(wrongWhen)),
+                Observer.all(Promise15CrashTest::changed));
     }
 
-    private static void crashesAgainAndAgain(Due due) {
-        ExtentFileTree x = saved();
+    private static RealTree crashedAgainAndAgain(Due due) {
+        RealTree x = saved();
         for (int round = 1; round <= 30; round++) {
             x.open(1, 0, 1);
             x.open(2, 1, 2);
@@ -92,6 +104,11 @@ public final class Promise15CrashTest {
             due.is("copies()", x.copies(), 10);
             due.is("crash", x.crash(round % 2 * 2), 1);
         }
-        due.same("the saved tree", Observer.tree(x), Observer.tree(saved()));
+        return x;
+    }
+
+    private static void crashesAgainAndAgain(Due due) {
+        due.same("the nodes", Observer.present(() -> crashedAgainAndAgain(due)),
+                Observer.present(Promise15CrashTest::saved));
     }
 }
