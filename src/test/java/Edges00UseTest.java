@@ -4,6 +4,7 @@ import java.util.function.ToIntFunction;
 /** "An object is used for at most 512 calls after it has been made; what later calls answer is free." */
 public final class Edges00UseTest {
     private static final int LAST = RealTree.LAST_CALL;
+    private static final int ENOUGH = 500_000;
     private static final int NOTHING = ExtentFileTree.NOTHING;
 
     private record Case(int want, ToIntFunction<Tree> call) {
@@ -32,6 +33,7 @@ public final class Edges00UseTest {
         Due due = new Due();
         theLastCallsAnswerAsAnyOther(due);
         laterCallsEnd(due);
+        anyNumberOfCallsEnds(due);
         savingsAreCountedToTheLastCall(due);
         copiesAreFoundToTheLastCall(due);
         nodesAreFoundToTheLastCall(due);
@@ -84,6 +86,45 @@ public final class Edges00UseTest {
             }
         }
         due.is("calls made", x.calls(), 7 + 100 * CASES.size());
+    }
+
+    private static long seed = 1;
+
+    /** The same numbers in every run: mostly some that the document lets through, now and then any int. */
+    private static int number(int first, int last) {
+        seed = seed * 6364136223846793005L + 1442695040888963407L;
+        int any = (int) (seed >>> 32);
+        return (seed >>> 20 & 15) == 0 ? any : first + Math.floorMod(any, last - first + 1);
+    }
+
+    private static int anyCall(Tree x) {
+        int h = number(-1, 4);
+        int d = number(-1, 4);
+        int name = number(-2, 20);
+        switch (number(0, 13)) {
+            case 0: return x.open(h, d, name);
+            case 1: return x.make(h, d, name, number(0, 1) == 0);
+            case 2: return x.erase(d, name);
+            case 3: return x.rename(d, name, h, number(-1, 20));
+            case 4: return x.write(h, number(-1, 32), number(0, 9));
+            case 5: return x.read(h, number(-1, 32));
+            case 6: return x.cut(h, number(-1, 8));
+            case 7: return x.kind(h);
+            case 8: return x.next(d, name);
+            case 9: return x.size(h);
+            case 10: return x.copies();
+            case 11: return x.nodes();
+            case 12: return x.save();
+            default: return x.crash(number(-1, 3));
+        }
+    }
+
+    private static void anyNumberOfCallsEnds(Due due) {
+        RealTree x = new RealTree(Integer.MAX_VALUE);
+        while (x.calls() < ENOUGH) {
+            anyCall(x);
+        }
+        due.is("calls made", x.calls(), ENOUGH);
     }
 
     private static void savingsAreCountedToTheLastCall(Due due) {
