@@ -23,7 +23,7 @@ final class Edge {
         due.same(name + ": what is seen then", Observer.all(() -> after(new RealTree(), call)), untouched);
     }
 
-    /** The answer is the one that is due, and all has changed as in the model. The object is handed on to be asked more. */
+    /** The answer is the one that is due, and all has changed as in the model. Answers the object, to be asked more. */
     RealTree changes(int want, ToIntFunction<Tree> call) {
         String name = answers(want, call);
         Supplier<RealTree> real = () -> after(new RealTree(), call);

@@ -210,7 +210,7 @@ public final class Edges05RenameTest {
             Edge at = new Edge(due, "handle 1 " + steps + " steps below", x -> chain(x, 15, below));
             at.keeps(CIRCLE, x -> x.rename(0, 5, 1, 7));
             if (steps > 0) {
-                // The directory one above handle 1 may not go below itself, but the one at handle 1 may go up to the top.
+                // The directory at handle 1 may not become an entry of its own, but it may go up to the top.
                 Edge above = new Edge(due, "handle 3 one above handle 1", x -> {
                     chain(x, 15, below);
                     x.open(3, 0, 5);

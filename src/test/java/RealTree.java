@@ -1,6 +1,6 @@
 import java.util.Arrays;
 
-/** The class under test. It counts its calls, since what an object answers after the 512th is free: no test may use it. */
+/** The class under test. It counts its calls: what an object answers after the 512th is free, so no test may use it. */
 final class RealTree implements Tree {
     static final int LAST_CALL = 512;
 
